@@ -10,6 +10,7 @@ public final class AdviceTest {
         waits();
         pairs();
         pairsThatCanNotBe();
+        pairsOfFive();
         ledger();
         tears();
         check.end();
@@ -47,6 +48,8 @@ public final class AdviceTest {
         check.due("one day: too heavy", x.empty(1), -4);
         check.due("six days", x.empty(6), 8);
         check.due("nobody there", new GuestWeighsLess().empty(0), 0);
+        check.due("dance 9", Check.told("b80;g0050;").empty(1), 9);
+        check.due("10 would be needed", Check.told("b90;g0050;").empty(1), -4);
         check.due("61", x.empty(61), -1);
         check.due("-1", x.empty(-1), -1);
     }
@@ -149,6 +152,25 @@ public final class AdviceTest {
         check.due("both guests go", four.pairs(-1), 2);
         check.due("each with a bishop", four.pairs(0), 2);
         check.due("each with a bishop", four.pairs(1), 3);
+    }
+
+    /** Entered with 50 each, weights hold: 0 and 1 lack one pound, 2 lacks six, 3 can bear 5 more, 4 goes anyway. */
+    private static void pairsOfFive() {
+        GuestWeighsLess x = Check.told("b33;g0050;g0050;g0050;g0050;g0050;");
+        x.weighs(2, 55);
+        x.weighs(3, 44);
+        x.weighs(4, 49);
+        check.due("all but 2", x.pairs(-1), 4);
+        int[] with = {2, 3, 0, 1, -4};
+        for (int g = 0; g < with.length; g++) {
+            check.due("with whom " + g + " is", x.pairs(g), with[g]);
+        }
+        x.weighs(2, 54);
+        check.due("2 may go in place of another", x.pairs(-1), 4);
+        int[] then = {1, 0, 3, 2, -4};
+        for (int g = 0; g < then.length; g++) {
+            check.due("with whom " + g + " is then", x.pairs(g), then[g]);
+        }
     }
 
     private static void ledger() {

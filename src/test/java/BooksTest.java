@@ -77,7 +77,6 @@ public final class BooksTest {
         check.due("first season", x.seasons(1, 1, 0), (50 - 38) + (90 - 67));
         check.due("nobody in", x.seasons(1, 1, 1), 0);
         check.due("the seed goes on", x.seasons(2, 1, 0), 12 + 23 + (50 - 13) + (90 - 24));
-        check.due("20 seasons from now each", x.seasons(20, 1, 1) <= 40 ? 1 : 0, 1);
         check.due("nothing changes", x.guest(0, 2), 50);
         check.due("0 seasons", x.seasons(0, 1, 0), -1);
         check.due("21 seasons", x.seasons(21, 1, 0), -1);
@@ -86,6 +85,9 @@ public final class BooksTest {
         GuestWeighsLess stay = Check.told("b90;g0000;g0000;g5000;");
         check.due("who is in, of 7 seasons", stay.seasons(7, 5, 1), 21);
         check.due("no relief", stay.seasons(7, 5, 0), 0);
+        check.due("20 seasons", stay.seasons(20, 5, 1), 60);
+        check.due("38 less 9 is not less than 29", Check.told("b23;g0029;").seasons(1, 1, 1), 1);
+        check.due("it is less than 30", Check.told("b23;g0030;").seasons(1, 1, 1), 0);
         GuestWeighsLess left = Check.told("b03;g0050;d01;b90;g0000;");
         // only the one who is in is drawn for
         check.due("relief that is there does not count", left.seasons(3, -9, 0), 0);

@@ -46,6 +46,7 @@ public final class HouseTest {
         check.due("the other left with 11", x.guest(1, 2), 11);
         check.due("relief", x.count(2), 19);
         check.due("the text stays", x.element(7, 0), 'g');
+        check.due("least and most pounds and days", Check.read(Check.told("g4050;g4050;"), "l0101;l1020;d60;d01;"), 4);
         check.due("a second text goes on", Check.read(x, "g0010;"), 1);
         check.due("came on this day", x.guest(2, 5), 3);
         check.due("secrets of one who left", Check.read(x, "s18;"), 1);

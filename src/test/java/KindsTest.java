@@ -87,6 +87,11 @@ public final class KindsTest {
         check.due("no elements", x.cameWith(1, 0, 0), 121);
         check.due("no elements: least", x.cameWith(1, 0, 1), 0);
         check.due("no elements: greatest", x.cameWith(1, 0, 2), 120);
+        x.table(0, 1);
+        Check.put(x, 1, 0, 1, 1, 0);
+        check.due("just one", x.cameWith(1, 0, 0), 1);
+        check.due("just one: the least", x.cameWith(1, 0, 1), 49);
+        check.due("just one: the greatest", x.cameWith(1, 0, 2), 49);
         x.days(1);
         Check.put(x, 1, 0, 0, 0, 0);
         check.due("left", x.cameWith(1, 0, 0), 121);
@@ -144,6 +149,7 @@ public final class KindsTest {
         check.due("fasting is no help", y.two(0, 1, 3), 1);
         y.weighs(0, 47);
         check.due("fasting is", y.two(0, 1, 3), 11);
+        check.due("a child must stay 3 days, so 2 are no use", y.two(0, 1, 2), 1);
     }
 
     private static void feasts() {
@@ -198,6 +204,9 @@ public final class KindsTest {
         GuestWeighsLess y = Check.told("b03;g0050;g0050;d01;");
         check.due("least terms", y.mean(0), 3);
         check.due("least terms", y.mean(1), 1);
+        GuestWeighsLess one = Check.told("b03;g0050;g4050;d01;");
+        check.due("of one", one.mean(0), 3);
+        check.due("of one", one.mean(1), 1);
         check.due("part 2", y.mean(2), REFUSED);
         check.due("part -1", y.mean(-1), REFUSED);
     }
