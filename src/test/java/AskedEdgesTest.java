@@ -46,6 +46,11 @@ public final class AskedEdgesTest {
         GuestWeighsLess y = Check.told("b99;g0050;");
         check.due("board 0 alone", y.feed(1, 0), 0);
         check.due("9 less", y.feed(1, 1), 9);
+        // 87 too many: 3, 3, 1, 4, 4 by boards 0, 2, 4, 6, 8 (and as much by the next ones); a board 10 would make 5
+        GuestWeighsLess singer = Check.told("b09;g7900;");
+        singer.weighs(0, 96);
+        check.due("no board above 9", singer.feed(60, 0), 6);
+        check.due("no board above 9: how much", singer.feed(60, 1), 4);
         // by board 0 or 1 the aunt eats nothing
         GuestWeighsLess aunt = Check.told("b90;g1050;");
         check.due("0 and 1 are alike", aunt.feed(1, 0), 0);
