@@ -66,10 +66,12 @@ public final class GuestWeighsLess {
         }
         mind.becomes(now);
         int statements = 0;
-        for (int place = 0; place < row.size(); place += text.lengthAt(place)) {
+        int place = 0;
+        while (statements < MOST_ELEMENTS && place < row.size()) {
             if (!text.follow(mind, place)) {
                 return SECOND_KIND_OF_FAULT - place;
             }
+            place += text.lengthAt(place);
             statements++;
         }
         now.becomes(mind);
@@ -1098,11 +1100,13 @@ public final class GuestWeighsLess {
             if (bytes.size() == 0) {
                 return 0;
             }
-            for (int place = 0; place < bytes.size(); place += lengthAt(place)) {
+            int place = 0;
+            for (int statement = 0; statement < MOST_ELEMENTS && place < bytes.size(); statement++) {
                 int flaw = flawInStatement(place);
                 if (flaw >= 0) {
                     return flaw;
                 }
+                place += lengthAt(place);
             }
             return -1;
         }

@@ -9,6 +9,7 @@ public final class TextEdgesTest {
         spoiled();
         spoiledBehindAnother();
         longest();
+        mostStatements();
         lowestBits();
         newcomers();
         roomForSeven();
@@ -80,6 +81,27 @@ public final class TextEdgesTest {
         due(two(), text.substring(0, 96), 24);
         due(two(), text.substring(0, 92) + "12;t2;", -1092);
         due(two(), text.substring(0, 92) + "b12;" + "t2;", -2096);
+    }
+
+    /** The shortest statement is three bytes long: a hundred bytes hold 33 of it and a letter. */
+    private static void mostStatements() {
+        StringBuilder text = new StringBuilder();
+        for (int i = 0; i < 33; i++) {
+            text.append('t').append(i / 9).append(';');
+        }
+        GuestWeighsLess x = fourOfNineSecrets();
+        due(x, text.toString(), 33);
+        check.due("nine told", x.guest(0, 2), 41);
+        check.due("six told", x.guest(3, 2), 44);
+        check.due("three are left", x.guest(3, 4), 3);
+        due(fourOfNineSecrets(), text.substring(0, 96) + "t2;", -2096);
+        due(fourOfNineSecrets(), text.substring(0, 96) + "t;", -1097);
+        due(fourOfNineSecrets(), text + "t", -1100);
+        due(fourOfNineSecrets(), text + ";", -1099);
+    }
+
+    private static GuestWeighsLess fourOfNineSecrets() {
+        return Check.told("g0050;g0050;g0050;g0050;s09;s19;s29;s39;");
     }
 
     private static void lowestBits() {
